@@ -20,6 +20,7 @@ public final class ChartTest {
         tallOfLaterPages();
         sharpest();
         sharpestIsFirstOfLikeOnes();
+        sharpestOfManyOrders();
         checks.close();
     }
 
@@ -59,6 +60,8 @@ public final class ChartTest {
         checks.due("MID of the narrow", x.page(1, 0, 0), 5);
         checks.due("MID is cut", x.page(2, 0, 0), 19);
         checks.due("MID is cut", x.page(2, 1, 0), 980);
+        checks.due("49 and 50", x.chart(0, 123, 990, 4950, 101, 0), 3);
+        checks.due("MID of 49 and 50", x.page(3, 0, 0), 490);
     }
 
     private static void chartsOfFourTerms() {
@@ -358,5 +361,31 @@ public final class ChartTest {
         checks.due("its width", x.sharpest(0, 3, 1), 18);
         checks.due("the chart's ORDER stays", x.reading(0, 9090909), true);
         checks.due("its pages stay", x.page(0, 0, 0), 50);
+    }
+
+    /** Answers that the Model gave: ORDER, WIDTH, EYE, WIDE, MODULI, and from, step, many of each TERM. */
+    private static void sharpestOfManyOrders() {
+        int[][] due = {
+            {312, 12, 3, 31, 204, 301, 0, 5, 5, 4, 2, 1, 4, 4, 6, 4},
+            {132, 4, 1, 23, 502, 103, 0, 1, 3, 3, 1, 2, 4, 4, 4, 3},
+            {213, 5, 2, 28, 504, 204, 0, 1, 6, 4, 4, 6, 3, 5, 4, 2},
+            {231, 5, 2, 20, 303, 303, 0, 3, 6, 3, 0, 3, 4, 0, 6, 4},
+            {321, 8, 2, 15, 103, 403, 0, 0, 4, 4, 4, 5, 2, 5, 4, 4},
+            {1423, 7, 1, 23, 103, 105, 402, 1, 3, 3, 5, 6, 2, 5, 3, 2, 5, 3, 4},
+            {2413, 22, 3, 30, 503, 101, 401, 3, 6, 3, 3, 3, 3, 4, 5, 3, 0, 2, 2},
+            {3142, 15, 2, 17, 302, 102, 201, 0, 4, 2, 4, 3, 2, 1, 3, 3, 1, 4, 3},
+            {4312, 6, 1, 11, 402, 103, 305, 2, 3, 4, 2, 6, 2, 2, 5, 3, 4, 2, 4},
+            {4321, 16, 3, 17, 404, 205, 401, 1, 3, 4, 4, 3, 2, 5, 4, 4, 4, 6, 3}};
+        for (int[] d : due) {
+            int terms = (d.length - 7) / 3;
+            ThreadCharts x = Checks.withRule(terms == 3 ? "c = a + b - d;" : "c = a + b - d + e;");
+            x.range(0, 0, 0, 1, 40);
+            for (int t = 1; t <= terms; t++) {
+                x.range(0, t, d[4 + 3 * t], d[5 + 3 * t], d[6 + 3 * t]);
+            }
+            x.chart(0, terms == 3 ? 123 : 1234, d[3], d[4], d[5], d[6]);
+            checks.due("sharpest of " + d[0], x.sharpest(0, d[2], 0), d[0]);
+            checks.due("width of " + d[0], x.sharpest(0, d[2], 1), d[1]);
+        }
     }
 }

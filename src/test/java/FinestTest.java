@@ -64,7 +64,14 @@ public final class FinestTest {
         low.chart(0, 12, 100, 101, 0, 0);
         low.list(1);
         checks.due("high 10", low.finest(0, 10, 0), 101);
-        checks.due("high 9 can't be", low.finest(0, 9, 0), NONE);
+        ThreadCharts lowest = Checks.withRule("c = a + b;");
+        for (int t = 0; t < 3; t++) {
+            lowest.range(0, t, 0, 1, 3);
+        }
+        lowest.chart(0, 12, 100, 101, 0, 0);
+        lowest.list(1);
+        checks.due("2 is TALL", lowest.finest(0, 10, 0), 101);
+        checks.due("high 9 can't be", lowest.finest(0, 9, 0), NONE);
     }
 
     /** c = a - b: left 0 .. 9 LEFT, right -9 RIGHT .. 0, so TALL is 9 times LEFT and RIGHT. */

@@ -20,6 +20,8 @@ public final class ReportTest {
         offOnesSayNothing();
         reportsOfAnotherChart();
         twelveCandidates();
+        manyBadOnes();
+        boundsOneBehindTheOther();
         orderOfHeaps();
         suspectsOfFourTerms();
         counts();
@@ -138,6 +140,8 @@ public final class ReportTest {
         checks.due("one", habitOf(5), 5);
         checks.due("one below", habitOf(-9), -9);
         checks.due("9", habitOf(9), 9);
+        checks.due("1", habitOf(1), 1);
+        checks.due("-1", habitOf(-1), -1);
         checks.due("10", habitOf(10), 0);
         checks.due("-10", habitOf(-10, -10, -10), 0);
         checks.due("10 and 9", habitOf(10, 10, 9), 9);
@@ -153,6 +157,17 @@ public final class ReportTest {
         checks.due("no reader", x.habit(-1), VOID);
         checks.due("no reader", x.habit(8), VOID);
         checks.due("reader 7", x.habit(7), 0);
+        for (int reader = 0; reader < 8; reader++) {
+            for (int i = 0; i <= reader; i++) {
+                report(x, reader, 9, 9, reader - 3);
+            }
+        }
+        for (int reader = 7; reader >= 0; reader--) {
+            checks.due("each reader has their own", x.habit(reader), reader - 3);
+        }
+        for (int reader = 0; reader < 8; reader++) {
+            checks.due("asked again", x.habit(reader), reader - 3);
+        }
     }
 
     private static void habitsOverCharts() {
@@ -272,6 +287,29 @@ public final class ReportTest {
         suspects("with 20 the MARKS of both BAD ones are in GOOD ones", x, 20);
         report(x, 0, 10, 18, 0);
         suspects("the thirteenth is in a GOOD one, and in a BAD one with none", x, 5);
+    }
+
+    private static void manyBadOnes() {
+        ThreadCharts x = Checks.plainHouse();
+        for (int i = 0; i < 60; i++) {
+            report(x, i % 8, 1 + i % 3, i < 30 ? 4 : 5, 30);
+        }
+        suspects("60 BAD ones", x, 5, 2, 0, 204, 205);
+    }
+
+    private static void boundsOneBehindTheOther() {
+        ThreadCharts x = Checks.plainHouse();
+        report(x, 0, 1, 1, 0);
+        report(x, 0, 2, 2, 0);
+        report(x, 0, 3, 4, 15);
+        report(x, 0, 5, 6, -18);
+        for (int i = 0; i < 2; i++) {
+            suspects("none with 20", x, 20, 0, 0);
+            suspects("one with 16", x, 16, 1, 1, 105);
+            suspects("two with 5", x, 5, 2, 3, 103, 105);
+        }
+        x.move(0, 1, 5, 1000);
+        suspects("the second is OFF now", x, 5, 1, 1, 103);
     }
 
     private static void orderOfHeaps() {
