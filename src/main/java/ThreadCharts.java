@@ -288,10 +288,10 @@ public final class ThreadCharts {
     }
 
     public int go(int n) {
-        if (n < 0 || n > MOST_DAYS_TO_GO || now + n > LAST_DAY) {
+        if (n < 0 || n > MOST_DAYS_TO_GO) {
             return NONE;
         }
-        now += n;
+        now = Math.min(now + n, LAST_DAY);
         return now;
     }
 

@@ -6,6 +6,7 @@ public final class ErrataTest {
 
     public static void main(String[] args) {
         days();
+        lastDay();
         wrongMoves();
         fortyMoves();
         asKnown();
@@ -25,12 +26,38 @@ public final class ErrataTest {
             checks.due("go(50)", x.go(50), 50 * i);
         }
         checks.due("go(1)", x.go(1), 251);
-        checks.due("go(50) to 301", x.go(50), NONE);
-        checks.due("still 251", x.count(0), 251);
         checks.due("go(49) to 300", x.go(49), 300);
-        checks.due("go(1) to 301", x.go(1), NONE);
         checks.due("go(0)", x.go(0), 300);
         checks.due("300", x.count(0), 300);
+    }
+
+    /** NOW stays at the last DAY, whatever n is; what is no n is refused there too. */
+    private static void lastDay() {
+        for (int from = 250; from <= 300; from += 7) {
+            for (int n = 0; n <= 50; n++) {
+                ThreadCharts x = new ThreadCharts();
+                for (int i = 0; i < 5; i++) {
+                    x.go(50);
+                }
+                x.go(from - 250);
+                int now = Math.min(300, from + n);
+                checks.due("from " + from + " go(" + n + ")", x.go(n), now);
+                checks.due("NOW", x.count(0), now);
+                checks.due("go(51)", x.go(51), NONE);
+                checks.due("go(-1)", x.go(-1), NONE);
+                checks.due("still", x.count(0), now);
+            }
+        }
+        ThreadCharts y = Checks.plainHouse();
+        for (int i = 0; i < 9; i++) {
+            y.go(49);
+        }
+        y.reading(0, 305);
+        int before = y.read(299, 0);
+        y.move(0, 1, 3, 4);
+        checks.due("MOVED on the last DAY", y.read(300, 0), before + 1);
+        checks.due("the DAY ahead", y.read(299, 0), before);
+        checks.due("no DAY", y.read(301, 0), VOID);
     }
 
     private static void wrongMoves() {

@@ -633,10 +633,13 @@ final class Model {
     }
 
     int go(int n) {
-        if (!in(n, 0, 50) || now + n > 300) {
+        if (!in(n, 0, 50)) {
             return NONE;
         }
-        return now += n;
+        for (int i = 0; i < n && now < 300; i++) {
+            now++;
+        }
+        return now;
     }
 
     int move(int chart, int term, int mark, int number) {
