@@ -519,6 +519,8 @@ public final class ChartEdgesTest {
         x.range(0, 2, 0, 99, 2);
         x.chart(0, 12, 100, 5050, 0, 0);
         checks.due("from -490050 to 490050", x.page(0, 0, 1), 980100);
+        checks.due("all points below 0", tallOf("c=-a-b;"), 12);
+        checks.due("all points above 0", tallOf("c=a+b;"), 12);
         Refusals open = new Refusals(checks, Houses::open);
         for (int n : new int[] {LEAST, -1, 2, 6, GREATEST}) {
             open.none("page of CHART " + n, y -> y.page(n, 0, 0));
@@ -526,6 +528,16 @@ public final class ChartEdgesTest {
             open.none("page what " + n, y -> y.page(0, 0, n));
         }
         open.none("PAGE 1 of 1", y -> y.page(0, 1, 0));
+    }
+
+    /** Left 10 .. 12, right 20 .. 22, middle 15 .. 17: no point is at 0. */
+    private static int tallOf(String text) {
+        ThreadCharts x = Checks.withRule(text);
+        x.range(0, 0, 0, 1, 2);
+        x.range(0, 1, 10, 1, 3);
+        x.range(0, 2, 20, 1, 3);
+        x.chart(0, 12, 100, 101, 0, 0);
+        return x.page(0, 0, 1);
     }
 
     /** "NONE for others, or if there is none such."; "of like ones the first ORDER" */

@@ -26,6 +26,7 @@ public final class ReportEdgesTest {
         thirteenMarks();
         noHeapDoes();
         lastMarksAsSuspects();
+        fourTermsThenTwo();
         suspectsOfOthers();
         counts();
         checks.close();
@@ -313,6 +314,14 @@ public final class ReportEdgesTest {
         report(y, 0, 1, 2, 0);
         report(y, 0, 1, 2, 30);
         suspects("GOOD and BAD alike", y);
+        ThreadCharts z = Checks.plainHouse();
+        report(z, 0, 3, 3, 30);
+        report(z, 0, 4, 4, 30);
+        suspects("one of two, twice", z, 2, 3, 103, 104);
+        report(z, 0, 4, 5, 0);
+        suspects("one MARK of the second one is in a GOOD one", z, 2, 1, 103, 204);
+        report(z, 0, 5, 4, 0);
+        suspects("both are", z);
     }
 
     /** "TERM * 100 + MARK": of the last TERM the last MARK that can be. */
@@ -333,6 +342,28 @@ public final class ReportEdgesTest {
         x.reading(0, 39000039);
         x.report(0, 300);
         suspects("and one with both", x, 2, 0, 139, 439);
+    }
+
+    /** What was looked at for a CHART of four TERMS is nothing to one of two. */
+    private static void fourTermsThenTwo() {
+        ThreadCharts x = Houses.charted(2, 20);
+        Checks.tell(x, "c=a+b+d+e;");
+        x.rule();
+        for (int t = 0; t < 5; t++) {
+            x.range(1, t, 0, t == 0 ? 5 : 1, 40);
+        }
+        x.chart(1, 3412, 100, 1010, 1010, 1010);
+        for (int marks : new int[] {304, 708}) {
+            x.reading(0, marks);
+            x.report(0, x.read(0, 1) + 30);
+        }
+        x.reading(1, 1020708);
+        x.report(0, x.read(0, 1) + 30);
+        suspects("CHART 0", x, 2, 3, 103, 107);
+        checks.due("CHART 1", x.suspects(1, 5, 0), 1);
+        checks.due("CHART 1", x.suspects(1, 5, 1), 3);
+        checks.due("CHART 1", x.suspects(1, 5, 2), 107);
+        suspects("CHART 0 again", x, 2, 3, 103, 107);
     }
 
     /** "NONE for others, or if there is none." */
